@@ -818,7 +818,8 @@ public final class FormPlaces {
             int product = 1;
             for (int term = 0; term < size && term < MOST_CORES; term++) {
                 int core = cores[term];
-                if (core % prime == 0 == with) {
+                boolean inPart = with ? core % prime == 0 : core % prime != 0;
+                if (inPart) {
                     terms++;
                     product = product * (with ? core / prime : core) % prime;
                 }

@@ -295,6 +295,8 @@ public final class PromiseTest {
         dueAbout(x, 5, 1, 0, 17, 0, 127, 0, 17, 0, 5);
         dueAbout(x, 6, 4, 2, 2, 3, 0, 1, 3, 0, 6);
         dueAbout(x, 7, 2, 2, 0, 6, 55, 0, 0, 6, 7);
+        // By 2, 1, 1 this comes to nothing, an even number ahead of odd ones.
+        dueAbout(with("1,2,-6"), 0, 3, 2, 5, 6, 0, 1, 4, 0);
         due("about(0, -1)", x.about(0, -1), OUTSIDE);
         due("about(0, 9)", x.about(0, 9), OUTSIDE);
         for (int far : FAR) due("about far", x.about(0, far), OUTSIDE);
@@ -372,6 +374,11 @@ public final class PromiseTest {
         dueRow("1,1,2,-7", 1, 2, 1, 1);
         dueRow("1,1,-13", 2, 3, 1);
         dueRow("1,13,-77", 5, 2, 1);
+        // The greatest number is least, not that of the first TERMS: 1, 5, 8 is another row.
+        dueRow("15,-39,15", 4, 5, 7);
+        dueRow("-65,1,-10", 1, 15, 4);
+        // The least row here is 1, 9, 22, which is no ROW.
+        dueRow("-77,-11,2", -1, -1, -1);
         FormPlaces x = with("1,1,-2");
         due("row(0, 3)", x.row(0, 3), UNKNOWN);
         due("row(0, -1)", x.row(0, -1), UNKNOWN);
@@ -401,6 +408,9 @@ public final class PromiseTest {
         // A row whose last number is 0 is no WAY: 1, 1, 0 would be the least here.
         dueWay("1,-1", 3, 2, 1, 1);
         dueWay("1,1,1,1", 1, 0, 0, 0, 1, 1);
+        dueWay("-78,15", 2, 1, 4, 9);
+        // The least row here is 1, 11, 2, which is no WAY.
+        dueWay("-77,1", 11, -1, -1, -1);
         FormPlaces x = with("1,1");
         due("way(0, 5, 3)", x.way(0, 5, 3), UNKNOWN);
         due("way(0, 17, 3)", x.way(0, 17, 3), UNKNOWN);
