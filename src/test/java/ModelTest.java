@@ -1,16 +1,9 @@
 /** FormPlaces against LiteralModel: all inputs where these are few, else long runs of calls picked by a fixed rule. */
-public final class ModelTest {
-    private static final int RUNS = 120;
-    private static final int CALLS = 500;
-    private static int wrong = 0;
+public final class ModelTest extends Check {
+    private static final int RUNS = 700;
+    /** No round makes more calls than this. */
+    private static final int CALLS_OF_ROUND = 70;
     private static long seed;
-
-    private static void due(String call, long got, long want) {
-        if (got != want) {
-            wrong++;
-            if (wrong < 40) System.out.println(call + " answered " + got + ", due is " + want);
-        }
-    }
 
     /** A fixed rule, so that each test is the same each time. */
     private static int pick(int below) {
@@ -23,14 +16,13 @@ public final class ModelTest {
         allSymbols();
         allPairs();
         for (int run = 0; run < RUNS; run++) oneRun(run);
-        System.out.println("ModelTest: " + (wrong == 0 ? "all as due" : wrong + " not as due"));
-        if (wrong != 0) System.exit(1);
+        end("ModelTest");
     }
 
     private static void allNumbers() {
-        FormPlaces x = new FormPlaces();
         LiteralModel m = new LiteralModel();
         for (int k = -300; k <= 300; k++) {
+            Used x = new Used();
             due("classOf(" + k + ")", x.classOf(k), m.classOf(k));
             due("core(" + k + ")", x.core(k), m.core(k));
             for (int place = -2; place <= 8; place++)
@@ -39,31 +31,35 @@ public final class ModelTest {
     }
 
     private static void allSymbols() {
-        FormPlaces x = new FormPlaces();
         LiteralModel m = new LiteralModel();
         for (int one = -1; one <= 128; one++)
-            for (int other = -1; other <= 128; other++)
+            for (int other = -1; other <= 128; other++) {
+                Used x = new Used();
                 for (int place = -1; place <= 7; place++)
                     due("symbol(" + one + ", " + other + ", " + place + ")",
                             x.symbol(one, other, place), m.symbol(one, other, place));
+            }
     }
 
     private static void allPairs() {
-        FormPlaces x = new FormPlaces();
-        LiteralModel m = new LiteralModel();
         for (int n = -9; n <= 170; n++) {
-            due("pairs(" + n + ")", x.pairs(n), m.pairs(n));
-            int size = m.count(6);
-            for (int pair = -1; pair <= size; pair++) {
-                String told = n + ": pair " + pair + ", ";
-                for (int what = -1; what <= 5; what++) due(told + what, x.pair(pair, what), m.pair(pair, what));
-                for (int rest = -1; rest <= n; rest++) due(told + "met " + rest, x.met(pair, rest), m.met(pair, rest));
-                due(told + "lay", x.lay(pair, 3), m.lay(pair, 3));
-                due(told + "det", x.about(3, 3), m.about(3, 3));
-            }
-            for (int what = 5; what <= 7; what++) due(n + ": count " + what, x.count(what), m.count(what));
-            due(n + ": digest", x.digest(), m.digest());
+            LiteralModel m = new LiteralModel();
+            m.pairs(n);
+            for (int pair = -1; pair <= m.count(6); pair++) onePair(n, pair);
         }
+    }
+
+    private static void onePair(int n, int pair) {
+        Used x = new Used();
+        LiteralModel m = new LiteralModel();
+        String told = n + ": pair " + pair + ", ";
+        due(told + "pairs", x.pairs(n), m.pairs(n));
+        for (int what = -1; what <= 5; what++) due(told + what, x.pair(pair, what), m.pair(pair, what));
+        for (int rest = -1; rest <= n; rest++) due(told + "met " + rest, x.met(pair, rest), m.met(pair, rest));
+        due(told + "lay", x.lay(pair, 3), m.lay(pair, 3));
+        for (int what = 0; what <= 8; what++) due(told + "about " + what, x.about(3, what), m.about(3, what));
+        for (int what = 0; what <= 9; what++) due(told + "count " + what, x.count(what), m.count(what));
+        due(told + "digest", x.digest(), m.digest());
     }
 
     private static int someNumber() {
@@ -79,7 +75,7 @@ public final class ModelTest {
         return pick(6) - pick(2) * pick(2);
     }
 
-    private static void type(FormPlaces x, LiteralModel m, String text) {
+    private static void type(Used x, LiteralModel m, String text) {
         for (int k = 0; k < text.length(); k++) {
             int code = text.charAt(k);
             due("letter(" + code + ")", x.letter(code), m.letter(code));
@@ -100,21 +96,25 @@ public final class ModelTest {
 
     private static void oneRun(int run) {
         seed = 77 + run;
-        FormPlaces x = new FormPlaces();
+        Used x = new Used();
         LiteralModel m = new LiteralModel();
-        for (int call = 0; call < CALLS; call++) {
-            String told = "run " + run + ", call " + call + ": ";
+        for (int round = 0; x.calls() < Used.MOST_CALLS - CALLS_OF_ROUND; round++) {
+            String told = "run " + run + ", round " + round + ": ";
             int kind = pick(100);
             if (kind < 30) changeStep(told, x, m);
             else if (kind < 55) texts(told, x, m);
             else if (kind < 90) forms(told, x, m);
             else pairs(told, x, m);
-            if (call % 10 == 0) due(told + "digest()", x.digest(), m.digest());
+            if (round % 5 == 0) due(told + "digest()", x.digest(), m.digest());
         }
         for (int what = -1; what <= 10; what++) due("run " + run + " count " + what, x.count(what), m.count(what));
+        for (int k = 0; k < 13; k++) {
+            due("run " + run + " last undo()", x.undo(), m.undo());
+            due("run " + run + " last digest()", x.digest(), m.digest());
+        }
     }
 
-    private static void texts(String told, FormPlaces x, LiteralModel m) {
+    private static void texts(String told, Used x, LiteralModel m) {
         if (pick(4) == 0) {
             int code = pick(2) == 0 ? "0123456789-,,--12".charAt(pick(17)) : pick(140) - 5;
             due(told + "letter(" + code + ")", x.letter(code), m.letter(code));
@@ -129,7 +129,7 @@ public final class ModelTest {
         }
     }
 
-    private static void forms(String told, FormPlaces x, LiteralModel m) {
+    private static void forms(String told, Used x, LiteralModel m) {
         int shelf = someShelf(), other = someShelf(), term = someTerm(), number = someNumber(), what = pick(11) - 1;
         due(told + "at(" + shelf + ", " + term + ")", x.at(shelf, term), m.at(shelf, term));
         due(told + "about(" + shelf + ", " + what + ")", x.about(shelf, what), m.about(shelf, what));
@@ -140,7 +140,7 @@ public final class ModelTest {
                 x.way(shelf, number, term), m.way(shelf, number, term));
     }
 
-    private static void changeStep(String told, FormPlaces x, LiteralModel m) {
+    private static void changeStep(String told, Used x, LiteralModel m) {
         int one = someShelf(), other = someShelf(), to = someShelf(), number = someNumber();
         int i = someTerm(), j = someTerm(), a = pick(18) - 1, b = pick(18) - 1;
         switch (pick(12)) {
@@ -155,7 +155,7 @@ public final class ModelTest {
         }
     }
 
-    private static void pairs(String told, FormPlaces x, LiteralModel m) {
+    private static void pairs(String told, Used x, LiteralModel m) {
         int n = pick(5) == 0 ? pick(170) - 3 : 3 + 4 * pick(40) + pick(2);
         if (pick(3) == 0) due(told + "pairs(" + n + ")", x.pairs(n), m.pairs(n));
         int pair = pick(8) - pick(2), what = pick(7) - 1, rest = pick(170) - 2, shelf = someShelf();

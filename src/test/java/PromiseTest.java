@@ -1,49 +1,5 @@
 /** Each promise by its number: ordinary inputs, the edges that the document names, wrong inputs. */
-public final class PromiseTest {
-    private static final int NONE = -1, UNKNOWN = -101, OUTSIDE = -102, STATE = -103, FULL = -104;
-    private static final int[] FAR = {Integer.MIN_VALUE, Integer.MIN_VALUE + 1, -1000, Integer.MAX_VALUE - 1, Integer.MAX_VALUE};
-    private static int wrong = 0;
-    private static int promise;
-
-    private static void due(String call, long got, long want) {
-        if (got != want) {
-            wrong++;
-            System.out.println("promise " + promise + ": " + call + " answered " + got + ", due is " + want);
-        }
-    }
-
-    private static void type(FormPlaces x, String text) {
-        for (int k = 0; k < text.length(); k++) x.letter(text.charAt(k));
-    }
-
-    private static int put(FormPlaces x, int shelf, String text) {
-        x.blank();
-        type(x, text);
-        return x.put(shelf);
-    }
-
-    private static FormPlaces with(String... forms) {
-        FormPlaces x = new FormPlaces();
-        for (int shelf = 0; shelf < forms.length; shelf++) put(x, shelf, forms[shelf]);
-        return x;
-    }
-
-    /** The COREs of a FORM as a text; "none" if there is no FORM. */
-    private static void dueForm(FormPlaces x, int shelf, String want) {
-        StringBuilder got = new StringBuilder();
-        int rank = Math.max(0, x.about(shelf, 0));
-        for (int term = 0; term < rank; term++) got.append(term == 0 ? "" : ",").append(x.at(shelf, term));
-        String told = rank == 0 ? "none" : got.toString();
-        if (!told.equals(want)) {
-            wrong++;
-            System.out.println("promise " + promise + ": SHELF " + shelf + " has " + told + ", due is " + want);
-        }
-    }
-
-    private static void dueAbout(FormPlaces x, int shelf, int... want) {
-        for (int what = 0; what < want.length; what++) due("about(" + shelf + ", " + what + ")", x.about(shelf, what), want[what]);
-    }
-
+public final class PromiseTest extends Check {
     private static long digestOf(int... told) {
         long h = 1487;
         for (int number : told) h = 31 * h + number;
@@ -78,13 +34,12 @@ public final class PromiseTest {
         counts();
         digests();
         refusalsChangeNothing();
-        System.out.println("PromiseTest: " + (wrong == 0 ? "all as due" : wrong + " not as due"));
-        if (wrong != 0) System.exit(1);
+        end("PromiseTest");
     }
 
     private static void newObject() {
-        promise = 1;
-        FormPlaces x = new FormPlaces();
+        sentence(1);
+        Used x = new Used();
         for (int what = 0; what <= 9; what++) due("count(" + what + ")", x.count(what), 0);
         for (int shelf = 0; shelf < 8; shelf++) due("about", x.about(shelf, 0), UNKNOWN);
         due("pair", x.pair(0, 0), UNKNOWN);
@@ -92,12 +47,12 @@ public final class PromiseTest {
         due("blank", x.blank(), 0);
         due("digest", x.digest(), digestOf(new int[18]));
         with("1,2").put(0);
-        due("another object", new FormPlaces().count(0), 0);
+        due("another object", new Used().count(0), 0);
     }
 
     private static void letters() {
-        promise = 2;
-        FormPlaces x = new FormPlaces();
+        sentence(2);
+        Used x = new Used();
         due("letter(31)", x.letter(31), OUTSIDE);
         due("letter(127)", x.letter(127), OUTSIDE);
         for (int code : FAR) due("letter", x.letter(code), OUTSIDE);
@@ -112,8 +67,8 @@ public final class PromiseTest {
     }
 
     private static void blanks() {
-        promise = 3;
-        FormPlaces x = new FormPlaces();
+        sentence(3);
+        Used x = new Used();
         due("blank", x.blank(), 0);
         type(x, "1,x");
         due("blank", x.blank(), 3);
@@ -125,7 +80,7 @@ public final class PromiseTest {
     }
 
     private static void dueFault(String text, int want) {
-        FormPlaces x = new FormPlaces();
+        Used x = new Used();
         type(x, text);
         due("fault of \"" + text + "\"", x.fault(), want);
         due("fault again of \"" + text + "\"", x.fault(), want);
@@ -133,7 +88,7 @@ public final class PromiseTest {
     }
 
     private static void faults() {
-        promise = 4;
+        sentence(4);
         String[] good = {"", "-", "1", "-1", "1,", "1,-", "12,-98,99,-99", "9,8,7,6", "96", "-64,"};
         for (String text : good) dueFault(text, text.length());
         dueFault("0", 0);
@@ -163,8 +118,8 @@ public final class PromiseTest {
     }
 
     private static void puts() {
-        promise = 5;
-        FormPlaces x = new FormPlaces();
+        sentence(5);
+        Used x = new Used();
         due("put(0) of nothing", x.put(0), STATE);
         String[] none = {"-", "1,", "1,-", "0", "17", "1,2,3,4,", "1,2,3,4,5", "1 ", "1,19", "-1,-"};
         for (String text : none) {
@@ -189,15 +144,15 @@ public final class PromiseTest {
     }
 
     private static void numbers() {
-        promise = 6;
-        FormPlaces x = new FormPlaces();
+        sentence(6);
+        Used x = new Used();
         int[] numbers = {1, -1, 2, 4, -8, 3, 9, 30, 77, 91, -99, 98, 64, 96, 13, -26};
         int[] kinds = {0, 1, 2, 0, 3, 4, 0, 14, 48, 80, 33, 2, 0, 6, 64, 67};
         for (int k = 0; k < numbers.length; k++) due("classOf(" + numbers[k] + ")", x.classOf(numbers[k]), kinds[k]);
         int[] outside = {0, 100, -100, 17, -17, 19, 34, 51, 85, 97, -97, 38, 62, 74, 82, 86, 94, 46, 58, 95, 93};
         for (int number : outside) due("classOf(" + number + ")", x.classOf(number), OUTSIDE);
         for (int number : FAR) due("classOf far", x.classOf(number), OUTSIDE);
-        promise = 7;
+        sentence(7);
         int[] cores = {1, -1, 2, -2, 3, -3, 6, -6, 5};
         for (int kind = 0; kind < cores.length; kind++) due("core(" + kind + ")", x.core(kind), cores[kind]);
         due("core(64)", x.core(64), 13);
@@ -209,8 +164,8 @@ public final class PromiseTest {
     }
 
     private static void symbols() {
-        promise = 8;
-        FormPlaces x = new FormPlaces();
+        sentence(8);
+        Used x = new Used();
         due("symbol(1, 1, 0)", x.symbol(1, 1, 0), -1);
         due("symbol(1, 1, 1)", x.symbol(1, 1, 1), -1);
         for (int place = 2; place < 7; place++) due("symbol(1, 1, " + place + ")", x.symbol(1, 1, place), 1);
@@ -225,8 +180,9 @@ public final class PromiseTest {
         due("symbol(32, 1, 5)", x.symbol(32, 1, 5), -1);
         for (int one = 0; one < 128; one++) {
             for (int other = 0; other < 128; other++) {
+                Used anew = new Used();
                 int product = 1;
-                for (int place = 0; place < 7; place++) product *= x.symbol(one, other, place);
+                for (int place = 0; place < 7; place++) product *= anew.symbol(one, other, place);
                 due("symbols of all PLACES of " + one + ", " + other, product, 1);
             }
         }
@@ -244,8 +200,8 @@ public final class PromiseTest {
     }
 
     private static void squares() {
-        promise = 9;
-        FormPlaces x = new FormPlaces();
+        sentence(9);
+        Used x = new Used();
         for (int place = 0; place < 7; place++) due("square(0, " + place + ")", x.square(0, place), 1);
         int[] minusOne = {0, 0, 0, 1, 0, 0, 1};
         for (int place = 0; place < 7; place++) due("square(1, " + place + ")", x.square(1, place), minusOne[place]);
@@ -267,8 +223,8 @@ public final class PromiseTest {
     }
 
     private static void ats() {
-        promise = 10;
-        FormPlaces x = with("1,-5,14");
+        sentence(10);
+        Used x = with("1,-5,14");
         due("at(0, 0)", x.at(0, 0), 1);
         due("at(0, 1)", x.at(0, 1), -5);
         due("at(0, 2)", x.at(0, 2), 14);
@@ -284,8 +240,8 @@ public final class PromiseTest {
     }
 
     private static void abouts() {
-        promise = 11;
-        FormPlaces x = with("1,-5,14", "1,1,-2", "1,1,1,1", "1,-1", "1,-1,1,-1", "-7", "1,-1,1,-2", "3,3");
+        sentence(11);
+        Used x = with("1,-5,14", "1,1,-2", "1,1,1,1", "1,-1", "1,-1,1,-1", "-7", "1,-1,1,-2", "3,3");
         dueAbout(x, 0, 3, 2, 27, 0, 18, 0, 27, 0, 0);
         dueAbout(x, 1, 3, 2, 3, 0, 0, 1, 2, 0, 1);
         dueAbout(x, 2, 4, 4, 0, 0, 3, 0, 0, 0, 2);
@@ -305,7 +261,7 @@ public final class PromiseTest {
         due("about(-1, 0)", x.about(-1, 0), UNKNOWN);
         x.clear(0);
         due("about(0, 0)", x.about(0, 0), UNKNOWN);
-        FormPlaces same = with("7", "2,2", "1,1", "1,1", "5,5", "2,-2", "1,-1");
+        Used same = with("7", "2,2", "1,1", "1,1", "5,5", "2,-2", "1,-1");
         int[] least = {0, 1, 1, 1, 1, 5, 5};
         for (int shelf = 0; shelf < 7; shelf++) due("about(" + shelf + ", 8)", same.about(shelf, 8), least[shelf]);
         same.clear(1);
@@ -313,8 +269,8 @@ public final class PromiseTest {
     }
 
     private static void likes() {
-        promise = 12;
-        FormPlaces x = with("1,-5,14", "1,1,-2", "1,1", "-1,-1", "2,2", "3,3", "1");
+        sentence(12);
+        Used x = with("1,-5,14", "1,1,-2", "1,1", "-1,-1", "2,2", "3,3", "1");
         due("like(0, 1)", x.like(0, 1), 62);
         due("like(1, 0)", x.like(1, 0), 62);
         due("like(0, 0)", x.like(0, 0), 0);
@@ -333,8 +289,8 @@ public final class PromiseTest {
     }
 
     private static void meets() {
-        promise = 13;
-        FormPlaces x = with("1,1,1", "1", "1,1");
+        sentence(13);
+        Used x = with("1,1,1", "1", "1,1");
         due("meets(0, 7)", x.meets(0, 7), 2);
         due("meets(0, -7)", x.meets(0, -7), 1);
         due("meets(0, 3)", x.meets(0, 3), 0);
@@ -356,13 +312,13 @@ public final class PromiseTest {
     }
 
     private static void dueRow(String form, int... want) {
-        FormPlaces x = with(form);
+        Used x = with(form);
         for (int term = 0; term < want.length; term++) due("row(0, " + term + ") of " + form, x.row(0, term), want[term]);
         due("row of one more", x.row(0, want.length), UNKNOWN);
     }
 
     private static void rows() {
-        promise = 14;
+        sentence(14);
         dueRow("1,1,-2", 1, 1, 1);
         dueRow("1,-5,14", -1, -1, -1);
         dueRow("1,-1", 1, 1);
@@ -379,7 +335,7 @@ public final class PromiseTest {
         dueRow("-65,1,-10", 1, 15, 4);
         // The least row here is 1, 9, 22, which is no ROW.
         dueRow("-77,-11,2", -1, -1, -1);
-        FormPlaces x = with("1,1,-2");
+        Used x = with("1,1,-2");
         due("row(0, 3)", x.row(0, 3), UNKNOWN);
         due("row(0, -1)", x.row(0, -1), UNKNOWN);
         due("row(1, 0)", x.row(1, 0), UNKNOWN);
@@ -390,14 +346,14 @@ public final class PromiseTest {
     }
 
     private static void dueWay(String form, int number, int... want) {
-        FormPlaces x = with(form);
+        Used x = with(form);
         for (int term = 0; term < want.length; term++)
             due("way(0, " + number + ", " + term + ") of " + form, x.way(0, number, term), want[term]);
         due("way of one more", x.way(0, number, want.length), UNKNOWN);
     }
 
     private static void ways() {
-        promise = 15;
+        sentence(15);
         dueWay("1,-5,14", 7, 7, 0, 1, 3);
         dueWay("1,1,-2", 77, 6, 7, 2, 1);
         dueWay("1,1,1,1", 7, 1, 1, 1, 2, 1);
@@ -411,7 +367,7 @@ public final class PromiseTest {
         dueWay("-78,15", 2, 1, 4, 9);
         // The least row here is 1, 11, 2, which is no WAY.
         dueWay("-77,1", 11, -1, -1, -1);
-        FormPlaces x = with("1,1");
+        Used x = with("1,1");
         due("way(0, 5, 3)", x.way(0, 5, 3), UNKNOWN);
         due("way(0, 17, 3)", x.way(0, 17, 3), UNKNOWN);
         due("way(0, 17, 2)", x.way(0, 17, 2), OUTSIDE);
@@ -427,8 +383,8 @@ public final class PromiseTest {
     }
 
     private static void clears() {
-        promise = 16;
-        FormPlaces x = with("1,2,3", "5");
+        sentence(16);
+        Used x = with("1,2,3", "5");
         due("clear(0)", x.clear(0), 3);
         dueForm(x, 0, "none");
         due("clear(0)", x.clear(0), UNKNOWN);
@@ -443,8 +399,8 @@ public final class PromiseTest {
     }
 
     private static void joins() {
-        promise = 17;
-        FormPlaces x = with("2,3", "-6", "1,1,1");
+        sentence(17);
+        Used x = with("2,3", "-6", "1,1,1");
         due("join(0, 1, 3)", x.join(0, 1, 3), 3);
         dueForm(x, 3, "2,3,-6");
         due("join(1, 0, 1)", x.join(1, 0, 1), 3);
@@ -467,8 +423,8 @@ public final class PromiseTest {
     }
 
     private static void productsOfForms() {
-        promise = 18;
-        FormPlaces x = with("2,3", "-6", "1,1,1", "5,7");
+        sentence(18);
+        Used x = with("2,3", "-6", "1,1,1", "5,7");
         due("times(0, 3, 4)", x.times(0, 3, 4), 4);
         dueForm(x, 4, "10,14,15,21");
         due("times(3, 0, 3)", x.times(3, 0, 3), 4);
@@ -490,8 +446,8 @@ public final class PromiseTest {
     }
 
     private static void scales() {
-        promise = 19;
-        FormPlaces x = with("2,3,-5", "7");
+        sentence(19);
+        Used x = with("2,3,-5", "7");
         due("scale(0, 6)", x.scale(0, 6), 9);
         dueForm(x, 0, "3,2,-30");
         due("scale(0, 6)", x.scale(0, 6), 15);
@@ -512,8 +468,8 @@ public final class PromiseTest {
     }
 
     private static void turns() {
-        promise = 20;
-        FormPlaces x = with("2,3,-2", "1,-1", "1,1");
+        sentence(20);
+        Used x = with("2,3,-2", "1,-1", "1,1");
         due("turn", x.turn(0, 0, 1, 1, 1), 5);
         dueForm(x, 0, "5,30,-2");
         due("turn", x.turn(0, 1, 0, 1, 1), 35);
@@ -542,17 +498,17 @@ public final class PromiseTest {
             due("turn far", x.turn(2, 0, 1, far, 1), OUTSIDE);
             due("turn far", x.turn(2, 0, 1, 1, far), OUTSIDE);
         }
-        FormPlaces great = with("42,-66");
+        Used great = with("42,-66");
         due("turn below 0", great.turn(0, 0, 1, 1, 1), -6);
         dueForm(great, 0, "-6,462");
-        FormPlaces swap = with("2,3");
+        Used swap = with("2,3");
         due("turn that swaps", swap.turn(0, 0, 1, 0, 1), 3);
         dueForm(swap, 0, "3,2");
     }
 
     private static void drops() {
-        promise = 21;
-        FormPlaces x = with("2,3,5,7", "11");
+        sentence(21);
+        Used x = with("2,3,5,7", "11");
         due("drop(0, 1)", x.drop(0, 1), 3);
         dueForm(x, 0, "2,5,7");
         due("drop(0, 2)", x.drop(0, 2), 2);
@@ -573,8 +529,8 @@ public final class PromiseTest {
     }
 
     private static void undos() {
-        promise = 22;
-        FormPlaces x = with("2,3", "5");
+        sentence(22);
+        Used x = with("2,3", "5");
         x.pairs(84);
         x.join(0, 1, 2);
         x.times(0, 1, 1);
@@ -600,7 +556,7 @@ public final class PromiseTest {
     }
 
     private static void undoOfTwelve() {
-        FormPlaces x = new FormPlaces();
+        Used x = new Used();
         for (int k = 0; k < 14; k++) put(x, k % 8, k % 2 == 0 ? "2" : "3");
         due("count(3)", x.count(3), 12);
         for (int k = 13; k >= 2; k--) due("undo", x.undo(), k % 8);
@@ -614,13 +570,9 @@ public final class PromiseTest {
         due("count(9)", x.count(9), 13);
     }
 
-    private static void duePair(FormPlaces x, int pair, int... want) {
-        for (int what = 0; what < want.length; what++) due("pair(" + pair + ", " + what + ")", x.pair(pair, what), want[what]);
-    }
-
     private static void pairs() {
-        promise = 23;
-        FormPlaces x = new FormPlaces();
+        sentence(23);
+        Used x = new Used();
         int[] outside = {-4, -1, 0, 1, 2, 5, 6, 9, 157, 158, 161, 163, 164, 1000};
         for (int n : outside) due("pairs(" + n + ")", x.pairs(n), OUTSIDE);
         for (int far : FAR) due("pairs far", x.pairs(far), OUTSIDE);
@@ -630,8 +582,8 @@ public final class PromiseTest {
         for (int k = 0; k < ns.length; k++) due("pairs(" + ns[k] + ")", x.pairs(ns[k]), sizes[k]);
         due("pairs(5)", x.pairs(5), OUTSIDE);
         due("count(5)", x.count(5), 160);
-        promise = 24;
-        due("pair, none open", new FormPlaces().pair(0, 9), UNKNOWN);
+        sentence(24);
+        due("pair, none open", new Used().pair(0, 9), UNKNOWN);
         x.pairs(3);
         duePair(x, 0, 1, 1, 1, 0, 1);
         x.pairs(20);
@@ -655,8 +607,8 @@ public final class PromiseTest {
     }
 
     private static void mets() {
-        promise = 25;
-        FormPlaces x = new FormPlaces();
+        sentence(25);
+        Used x = new Used();
         due("met, none open", x.met(0, 0), UNKNOWN);
         x.pairs(20);
         int[][] met = {{1, 9}, {3, 7}};
@@ -680,8 +632,8 @@ public final class PromiseTest {
     }
 
     private static void lays() {
-        promise = 26;
-        FormPlaces x = new FormPlaces();
+        sentence(26);
+        Used x = new Used();
         due("lay, none open", x.lay(0, 0), UNKNOWN);
         x.pairs(84);
         due("lay(1, 1)", x.lay(1, 1), 20);
@@ -706,8 +658,8 @@ public final class PromiseTest {
     }
 
     private static void counts() {
-        promise = 27;
-        FormPlaces x = with("1,1", "2,2", "3,3", "7", "1,1");
+        sentence(27);
+        Used x = with("1,1", "2,2", "3,3", "7", "1,1");
         x.pairs(84);
         x.pairs(23);
         x.undo();
@@ -722,8 +674,8 @@ public final class PromiseTest {
     }
 
     private static void digests() {
-        promise = 28;
-        FormPlaces x = new FormPlaces();
+        sentence(28);
+        Used x = new Used();
         put(x, 1, "1,1,-2");
         x.pairs(4);
         type(x, "-7");
@@ -733,8 +685,8 @@ public final class PromiseTest {
     }
 
     private static void refusalsChangeNothing() {
-        promise = 0;
-        FormPlaces x = with("1,2", "3,5,7", "11");
+        sentence(0, "they change nothing");
+        Used x = with("1,2", "3,5,7", "11");
         x.pairs(68);
         type(x, "1,");
         long before = x.digest();
