@@ -354,7 +354,16 @@ public final class FormPlaces {
     public long digest() {
         long hash = 1487;
         for (int shelf = 0; shelf < SHELVES; shelf++) {
-            hash = mixShelf(hash, shelf);
+            if (!hasForm(shelf)) {
+                hash = mix(hash, 0);
+                continue;
+            }
+            for (int what = 0; what <= LAST_ABOUT; what++) {
+                hash = mix(hash, about(shelf, what));
+            }
+            for (int term = 0; term < shelves[shelf].rank; term++) {
+                hash = mix(hash, at(shelf, term));
+            }
         }
         for (int pair = 0; pair < opened.size; pair++) {
             for (int what = 0; what <= LAST_OF_PAIR; what++) {
@@ -455,20 +464,6 @@ public final class FormPlaces {
             heaps += hasForm(shelf) && leastLike(shelf) == shelf ? 1 : 0;
         }
         return heaps;
-    }
-
-    private long mixShelf(long hash, int shelf) {
-        if (!hasForm(shelf)) {
-            return mix(hash, 0);
-        }
-        long mixed = hash;
-        for (int what = 0; what <= LAST_ABOUT; what++) {
-            mixed = mix(mixed, about(shelf, what));
-        }
-        for (int term = 0; term < shelves[shelf].rank; term++) {
-            mixed = mix(mixed, at(shelf, term));
-        }
-        return mixed;
     }
 
     /** Whole numbers, their CLASSES and the COREs of these. */

@@ -55,6 +55,7 @@ public final class CallEdgeTest extends Check {
         digestOfAll();
         digestWraps();
         digestOfFullPage();
+        toldAsOfOnePutAnew();
         lastCall();
         end("CallEdgeTest");
     }
@@ -938,6 +939,44 @@ public final class CallEdgeTest extends Check {
         type(one, "12");
         type(other, "21");
         due("in order", one.digest() == other.digest() ? 1 : 0, 0);
+    }
+
+    /** What about() tells of a FORM does not depend on how it came to its SHELF. */
+    private static void dueAnew(Used x, int shelf, String text) {
+        dueForm(x, shelf, text);
+        Used anew = with(text);
+        for (int what = 0; what <= 7; what++)
+            due("about(" + shelf + ", " + what + ") of " + text, x.about(shelf, what), anew.about(0, what));
+    }
+
+    private static void toldAsOfOnePutAnew() {
+        sentence(11, "What about() tells is of the FORM that lies there now");
+        Used x = with("-1,-1", "3,-7", "2,5", "-3");
+        x.pairs(84);
+        x.join(0, 1, 4);
+        dueAnew(x, 4, "-1,-1,3,-7");
+        x.drop(4, 0);
+        dueAnew(x, 4, "-1,3,-7");
+        x.turn(0, 0, 1, 1, 2);
+        dueAnew(x, 0, "-5,-5");
+        x.turn(1, 1, 0, 1, 1);
+        // -7 and 3 make -4, which is -1 times 2 times 2.
+        dueAnew(x, 1, "21,-1");
+        x.times(3, 2, 5);
+        dueAnew(x, 5, "-6,-15");
+        x.scale(5, -2);
+        dueAnew(x, 5, "3,30");
+        x.lay(3, 5);
+        x.drop(5, 1);
+        dueAnew(x, 5, "5");
+        x.join(5, 3, 5);
+        dueAnew(x, 5, "5,-3");
+        x.undo();
+        dueAnew(x, 5, "5");
+        x.join(1, 0, 1);
+        dueAnew(x, 1, "21,-1,-5,-5");
+        x.undo();
+        dueAnew(x, 1, "21,-1");
     }
 
     private static void lastCall() {

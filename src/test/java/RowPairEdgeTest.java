@@ -21,6 +21,7 @@ public final class RowPairEdgeTest extends Check {
         pairsInOrder();
         restsApartFromN();
         restsFromZero();
+        restsOfLargeN();
         genusIsTheLeast();
         formOfPair();
         noPairsAtFirst();
@@ -280,6 +281,42 @@ public final class RowPairEdgeTest extends Check {
         x.pairs(95);
         due("met(0, 94)", x.met(0, 94), 0);
         due("met(0, 49)", x.met(0, 49), 1);
+    }
+
+    private static int commonOf(int one, int other) {
+        return other == 0 ? one : commonOf(other, one % other);
+    }
+
+    private static boolean[] restsOf(int n, int a, int b, int c) {
+        boolean[] rests = new boolean[n];
+        for (int x = 0; x < n; x++) {
+            for (int y = 0; y < n; y++) {
+                int rest = Math.floorMod(a * x * x + b * x * y + c * y * y, n);
+                rests[rest] = commonOf(n, rest) == 1;
+            }
+        }
+        return rests;
+    }
+
+    private static void dueAllRests(int n, int pair) {
+        Used x = new Used();
+        x.pairs(n);
+        boolean[] rests = restsOf(n, x.pair(pair, 0), x.pair(pair, 1), x.pair(pair, 2));
+        int met = 0;
+        for (int rest = 0; rest < n; rest++) {
+            due("met(" + pair + ", " + rest + ") of " + n, x.met(pair, rest), rests[rest] ? 1 : 0);
+            met += rests[rest] ? 1 : 0;
+        }
+        due("pair(" + pair + ", 4) of " + n, x.pair(pair, 4), met);
+    }
+
+    private static void restsOfLargeN() {
+        sentence(0, "for some whole X, Y it is the rest of A X X + B X Y + C Y Y by N");
+        int[] ns = {63, 64, 127, 128, 131, 159, 160};
+        for (int n : ns) {
+            int size = new Used().pairs(n);
+            for (int pair = 0; pair < size; pair++) dueAllRests(n, pair);
+        }
     }
 
     private static void genusIsTheLeast() {
