@@ -148,7 +148,7 @@ public final class CallEdgeTest extends Check {
     }
 
     private static void faultOfEmpty() {
-        sentence(4, "how many letters it has, if there is none (of an empty PAGE)");
+        sentence(4, "how many letters it has, if there is none", "of an empty PAGE");
         dueFault("", 0);
     }
 
@@ -173,7 +173,7 @@ public final class CallEdgeTest extends Check {
     }
 
     private static void faultOfFullPage() {
-        sentence(4, "of a full PAGE");
+        sentence(4, "of the first letter of THE PAGE that no FORM has there", "of a full PAGE");
         dueFault("-99,-98,-96,-91,-9", 15);
         dueFault("1,1,1,1,1,1,1,1,1,", 7);
         dueFault("                  ", 0);
@@ -827,7 +827,7 @@ public final class CallEdgeTest extends Check {
     }
 
     private static void countOfFull() {
-        sentence(27, "How many: 0 SHELVES .. 9 STEPS that ever were undone (all full)");
+        sentence(27, "How many: 0 SHELVES .. 9 STEPS that ever were undone", "all full");
         Used x = with("1,1,1,1", "1,1,1,2", "1,1,1,3", "1,1,1,5", "1,1,1,6", "1,1,1,7", "1,1,1,10", "1,1,1,11");
         for (int k = 0; k < 5; k++) x.scale(0, 6);
         for (int k = 0; k < 18; k++) x.letter('1');
@@ -950,7 +950,7 @@ public final class CallEdgeTest extends Check {
     }
 
     private static void toldAsOfOnePutAnew() {
-        sentence(11, "What about() tells is of the FORM that lies there now");
+        sentence(11, "What = 0 RANK, 1 ABOVE, 2 DET, 3 HASSE", "of the FORM that lies there now");
         Used x = with("-1,-1", "3,-7", "2,5", "-3");
         x.pairs(84);
         x.join(0, 1, 4);

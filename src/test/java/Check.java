@@ -12,6 +12,11 @@ abstract class Check {
         from = (promise == 0 ? "Terms" : "promise " + promise) + " (\"" + words + "\")";
     }
 
+    static void sentence(int promise, String words, String here) {
+        sentence(promise, words);
+        from = from + ", " + here;
+    }
+
     static void sentence(int promise) {
         from = "promise " + promise;
     }

@@ -127,7 +127,7 @@ public final class RefusalTest extends Check {
     // ---- refusals, alone and together
 
     private static void fresh() {
-        sentence(0, "Refusals of a new object change nothing");
+        sentence(0, "they change nothing", "of a new object");
         fromNothing("letter(31)", OUTSIDE, x -> x.letter(31));
         fromNothing("letter(127)", OUTSIDE, x -> x.letter(127));
         fromNothing("put(0)", STATE, x -> x.put(0));
@@ -323,7 +323,7 @@ public final class RefusalTest extends Check {
 
     /** All refusals one behind the other, which must leave no trace together either. */
     private static void allThatRefuse() {
-        sentence(0, "they change nothing (many, one behind the other)");
+        sentence(0, "they change nothing", "many, one behind the other");
         fromBusy("many", STATE, x -> {
             for (int far : FAR) {
                 x.letter(far);

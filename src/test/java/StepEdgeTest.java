@@ -64,7 +64,7 @@ public final class StepEdgeTest extends Check {
         dueStep("scale(0, 36)", x -> x.scale(0, 36), 0, "2,3", "2,3");
         dueStep("turn(0, 0, 1, 1, 0)", x -> x.turn(0, 0, 1, 1, 0), 0, "2,3", "2,3");
         dueStep("turn(0, 1, 0, 15, 0)", x -> x.turn(0, 1, 0, 15, 0), 0, "2,3", "2,3");
-        sentence(0, "(also if it is as it was), times() and lay() and join()");
+        sentence(0, "(also if it is as it was)", "by times(), lay() and join()");
         Used x = with("1", "2,3", "1,1", "1,1,1");
         x.pairs(4);
         due("times(0, 1, 1)", x.times(0, 1, 1), 2);
@@ -76,7 +76,7 @@ public final class StepEdgeTest extends Check {
     }
 
     private static void otherCallsAreNone() {
-        sentence(0, "no other call is a STEP");
+        sentence(0, "What put(), clear(), join(), times(), scale(), turn(), drop(), lay() do", "and no other call");
         Used x = with("2,3");
         x.letter('7');
         x.fault();
@@ -189,7 +189,7 @@ public final class StepEdgeTest extends Check {
     }
 
     private static void undoneMakesRoom() {
-        sentence(0, "12 at most, one undone makes room for one more");
+        sentence(0, "STEPS are kept, 12 at most", "one undone makes room for one more");
         Used x = stepped(12);
         x.undo();
         put(x, 6, "-1");
@@ -201,7 +201,7 @@ public final class StepEdgeTest extends Check {
     }
 
     private static void ringGoesRound() {
-        sentence(0, "the eldest one is kept no more, again and again");
+        sentence(0, "the eldest one is kept no more", "again and again");
         Used x = stepped(40);
         for (int k = 39; k >= 35; k--) due("undo()", x.undo(), k % 8);
         for (int k = 0; k < 9; k++) put(x, 7, TEXTS[k]);
@@ -280,7 +280,7 @@ public final class StepEdgeTest extends Check {
     }
 
     private static void undoOfWhatWasMadeOfItself() {
-        sentence(22, "what was there ahead of that STEP, though the FORM was made of it");
+        sentence(22, "what was there ahead of that STEP", "though the FORM was made of it");
         Used x = with("2,3");
         x.join(0, 0, 0);
         dueForm(x, 0, "2,3,2,3");

@@ -47,7 +47,7 @@ public final class TermsEdgeTest extends Check {
     // ---- places, classes, numbers
 
     private static void placesFromZeroToSix() {
-        sentence(0, "PLACES are numbered from 0: 0 the REAL one; 1 to 6 those of the PRIMES");
+        sentence(0, "PLACES are numbered from 0 .. 0 the REAL one; 1 to 6 those of the PRIMES");
         Used x = new Used();
         due("square(0, -1)", x.square(0, -1), UNKNOWN);
         due("square(0, 0)", x.square(0, 0), 1);
