@@ -27,7 +27,7 @@ abstract class Check {
 
     static void tellWrong(String told) {
         wrong++;
-        if (wrong <= MOST_TOLD) System.out.println(from + ": " + told);
+        if (wrong <= MOST_TOLD) System.out.println(from + (from.isEmpty() ? "" : ": ") + told);
     }
 
     static void end(String test) {
