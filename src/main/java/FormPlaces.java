@@ -968,7 +968,7 @@ public final class FormPlaces {
             for (int rest = 0; rest < n; rest++) {
                 apart[rest] = Numbers.commonPart(rest, n) == 1;
             }
-            for (int pair = 0; pair < size; pair++) {
+            for (int pair = 0; pair < size && pair < MOST_PAIRS; pair++) {
                 findRests(pair);
                 genus[pair] = leastSame(pair);
             }

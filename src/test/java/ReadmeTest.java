@@ -112,7 +112,6 @@ public final class ReadmeTest extends Check {
     private static void commands(String page) throws IOException {
         List<String> run = Files.readAllLines(RUN);
         if (!block(page, "sh", 0).equals(List.of(RUN.toString()))) tellWrong("README.md does not name .ci/run first");
-        if (!Files.isExecutable(RUN)) tellWrong(".ci/run can't be run");
         TreeSet<String> kept = new TreeSet<>();
         for (String line : run) {
             Matcher found = KEPT.matcher(line);
